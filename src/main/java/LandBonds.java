@@ -1079,7 +1079,10 @@ public final class LandBonds {
                 } else {
                     happen(now.fact);
                 }
-                askThose();
+                int people = countAsked();
+                for (int n = 0; n < people; n++) {
+                    ask(askedAt(n));
+                }
             }
         }
 
@@ -1171,20 +1174,21 @@ public final class LandBonds {
             now.otherHad = bonds[other];
         }
 
-        private void askThose() {
+        private int countAsked() {
             if (now.asked == 0) {
-                return;
+                return 0;
             }
             if (now.one == NONE) {
-                for (int p = 0; p < persons.count; p++) {
-                    ask(p);
-                }
-                return;
+                return persons.count;
             }
-            ask(now.one);
-            if (now.other != NONE) {
-                ask(now.other);
+            return now.other == NONE ? 1 : 2;
+        }
+
+        private int askedAt(int i) {
+            if (now.one == NONE) {
+                return i;
             }
+            return i == 0 ? now.one : now.other;
         }
 
         /** Nothing changes before all lands are asked: each land sees the bonds as they were. */
