@@ -323,7 +323,8 @@ public final class Promises {
         faulty("gain birth 000000;", 2, 11);
         faulty("gain birth 1 123456;", 1, 13);
         faulty("gain birth foo;", 3, 11);
-        faulty("gain birth az;", 3, 11);
+        faulty("gain birth z;", 3, 11);
+        faulty("gain birth a;", 3, 11);
         faulty("gain birth and;", 3, 11);
         faulty("gain birth gain;", 3, 11);
         faulty("gain birth unless 1;", 3, 11);
@@ -860,6 +861,7 @@ public final class Promises {
         y.person(0, 0, 1);
         y.person(0, 1, 0);
         y.person(0, 0, -1);
+        y.person(0, 0, 1);
         act(y, 0, "gain birth wedded; gain wed here; lose wed has;", 0, END);
         act(y, 1, "gain birth here; gain border here and to; lose border not to and others=0;", 0, END);
         act(y, 2, "gain choose to=0; gain serve wedded;", 0, END);
@@ -870,6 +872,8 @@ public final class Promises {
         due("born here, not of wedded ones", y.lands(2, 10, 0, 0), 2);
         due("born of wedded ones", y.lands(3, 30, 0, 0), 1);
         due("no mother", y.lands(4, 30, 0, 0), 0);
+        y.fact(BIRTH, 5, 0, 0, 31);
+        due("born of wedded ones, person 0 the father", y.lands(5, 31, 0, 0), 1);
         due("a wedding elsewhere", y.lands(0, 20, 0, 0), 0);
         y.fact(WEDDING, 1, 0, 0, 40);
         due("a wedding here", y.lands(0, 40, 0, 0), 1);
