@@ -45,4 +45,13 @@ final class Calls {
         for (int i = 0; i < n.length; i += 5) x.feed(n[i], n[i + 1], n[i + 2], n[i + 3], n[i + 4]);
         return x.act(land, text.length(), from, to);
     }
+
+    /** Lands, places of land 0, 1 .. in turn, persons of sex 0, 1 .. in turn without parents. */
+    static LandBonds desk(int lands, int places, int persons) {
+        LandBonds x = new LandBonds();
+        for (int i = 0; i < lands; i++) x.land();
+        for (int i = 0; i < places; i++) x.place(i % lands);
+        for (int i = 0; i < persons; i++) x.person(i % 2, -1, -1);
+        return x;
+    }
 }

@@ -1,9 +1,5 @@
 /** Each promise with ordinary inputs, the edges that the document names, and wrong inputs; answers worked out by hand. */
-public final class Promises {
-    private static final long NO_SUCH = Calls.NO_SUCH;
-    private static final long ILLEGAL = Calls.ILLEGAL;
-    private static final int BIRTH = 0, WEDDING = 1, OATH = 2, CHOICE = 3, SERVICE = 4, BORDER = 5, STAY = 6;
-    private static final int END = 72999;
+public final class Promises implements Kinds {
     private static int wrong = 0;
 
     private static void due(String what, long got, long want) {
@@ -54,13 +50,8 @@ public final class Promises {
         if (wrong != 0) System.exit(1);
     }
 
-    /** Lands, places of land 0, 1 .. in turn, persons without parents. */
     private static LandBonds desk(int lands, int places, int persons) {
-        LandBonds x = new LandBonds();
-        for (int i = 0; i < lands; i++) x.land();
-        for (int i = 0; i < places; i++) x.place(i % lands);
-        for (int i = 0; i < persons; i++) x.person(i % 2, -1, -1);
-        return x;
+        return Calls.desk(lands, places, persons);
     }
 
     private static int act(LandBonds x, int land, String text, int from, int to) {
