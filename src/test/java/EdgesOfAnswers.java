@@ -677,8 +677,12 @@ public final class EdgesOfAnswers implements Kinds {
             LandBonds x = desk(2, 1, 3);
             act(x, 0, "gain act 1;", 10, END);
             act(x, 1, "gain act others;", 11, END);
+            act(x, 1, "gain act sex;", 20, END);
             due("of land 0", x.ifStruck(0, 11, 1, 0), 3);
             due("of land 1", x.ifStruck(1, 11, 1, 0), 3);
+            x.back(true, 1);
+            due("one of land 1, where land 0 has three", x.ifStruck(2, 20, 1, 0), 1);
+            due("none that had it not", x.ifStruck(2, 20, 0, 0), 0);
         });
         edge(struck, "what it strikes is in force without it", () -> {
             LandBonds x = desk(1, 1, 3);

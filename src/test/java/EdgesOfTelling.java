@@ -837,6 +837,7 @@ public final class EdgesOfTelling implements Kinds {
             LandBonds x = desk(1, 1, 1);
             x.fact(STAY, 0, 0, 0, 0);
             x.act(0, 0, 0, 1);
+            x.evenings(1);
             x.back(false, 0);
             x.back(true, 0);
             due("facts", x.count(4), 1);

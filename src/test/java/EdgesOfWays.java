@@ -149,6 +149,18 @@ public final class EdgesOfWays implements Kinds {
             has(x, 0, 10, 0);
             has(x, 0, END, 0);
         });
+        edge(order, "one that isn't in force on its first day asks nothing of the others, either", () -> {
+            LandBonds x = desk(1, 0, 1);
+            act(x, 0, "gain act year;", 0, END);
+            act(x, 0, "", 400, END);
+            act(x, 0, "", 500, 500);
+            act(x, 0, "", 600, 599);
+            act(x, 0, "strike 1;", 100, END);
+            has(x, 0, END, 0);
+            act(x, 0, "", 700, 701);
+            has(x, 0, 699, 0);
+            has(x, 0, 700, 1);
+        });
         edge(order, "one that isn't struck on its first day begins", () -> {
             LandBonds x = desk(1, 0, 1);
             act(x, 0, "gain act 1;", 10, END);
