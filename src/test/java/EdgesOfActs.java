@@ -307,6 +307,10 @@ public final class EdgesOfActs implements Kinds {
         refuses(number, "gain act 1 children 123456;", 2, 20);
         refuses(number, "strike 123456;", 2, 7);
         refuses(number, "strike 000001;", 2, 7);
+        refuses(number, "strike 4294967297;", 2, 7);
+        refuses(number, "gain act 1 children 18446744073709551617;", 2, 20);
+        refuses(number, "gain act " + "9".repeat(490) + ";", 2, 9);
+        refuses(number, "gain act " + "0".repeat(491), 2, 9);
         refuses(number, "gain act 123456", 2, 9);
         String clause = "the first TOKEN of the 13th CLAUSE";
         String twelve = "lose act 1;".repeat(12);
