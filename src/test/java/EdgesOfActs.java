@@ -128,9 +128,10 @@ public final class EdgesOfActs implements Kinds {
         reads(signs, "gain act 1;lose act 1;");
         reads(signs, " ");
         reads(signs, "\n");
-        for (String sign : new String[] {"\t", "\r", "\u000b", "\u0000", "!", "#", "%", "&", "'", ",", ".", ":", ">", "?", "@",
-            "[", "]", "^", "|", "~", "\u007f", "\u0080", "\u00a0", "\u00bb", "\u00ff"}) {
-            edge(signs, "byte " + (int) sign.charAt(0), () -> {
+        for (char c = 0; c < 256; c++) {
+            String sign = String.valueOf(c);
+            if (sign.matches("[a-z0-9;()+*/<= \n-]")) continue;
+            edge(signs, "byte " + (int) c + " is none", () -> {
                 read(sign, 1, 0);
                 read("gain" + sign + "act 1;", 1, 4);
                 read("gain act" + sign + " 1;", 1, 8);

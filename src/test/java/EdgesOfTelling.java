@@ -815,6 +815,18 @@ public final class EdgesOfTelling implements Kinds {
             act(x, 0, " ".repeat(499) + "?", 0, 1);
             due("fault", x.fault(), 499);
         });
+        edge(fault, "a word or a number that a full tape ends in", () -> {
+            LandBonds x = desk(1, 0, 0);
+            due("'her'", act(x, 0, " ".repeat(488) + "gain act her", 0, 1), -4);
+            due("its place", x.fault(), 497);
+            due("'here'", act(x, 0, " ".repeat(487) + "gain act here", 0, 1), -2);
+            due("its end", x.fault(), 500);
+            due("'12345'", act(x, 0, " ".repeat(486) + "gain act 12345", 0, 1), -2);
+            due("its end", x.fault(), 500);
+            due("'123456'", act(x, 0, " ".repeat(485) + "gain act 123456", 0, 1), -3);
+            due("its place", x.fault(), 494);
+            due("blanks alone", act(x, 0, " ".repeat(500), 0, 1), 0);
+        });
         edge(fault, "behind the last byte of a full tape", () -> {
             LandBonds x = desk(1, 0, 0);
             act(x, 0, " ".repeat(496) + "gain", 0, 1);
