@@ -1,9 +1,7 @@
 /** Each sentence of the document that names an edge of acts: their tokens, grammar, faults, arithmetic, and force. */
-public final class EdgesOfActs implements Kinds {
-    private static Sheet sheet;
-
+public final class EdgesOfActs extends Edges {
     public static void main(String[] args) throws java.io.IOException {
-        sheet = new Sheet("EdgesOfActs", "../shared/DOC.md");
+        begin("EdgesOfActs");
         words();
         numbers();
         signsAndBlanks();
@@ -23,18 +21,8 @@ public final class EdgesOfActs implements Kinds {
         force();
         struck();
         struckInTurn();
-        sheet.end();
+        end();
     }
-
-    private static void edge(String sentence, String edge, Sheet.Test test) { sheet.edge(sentence, edge, test); }
-    private static void due(String what, long got, long want) { sheet.due(what, got, want); }
-    private static LandBonds desk(int lands, int places, int persons) { return Calls.desk(lands, places, persons); }
-
-    private static int act(LandBonds x, int land, String text, int from, int to) {
-        return Calls.act(x, land, text, from, to);
-    }
-
-    private static long bit(boolean answer) { return answer ? 1 : 0; }
 
     /** The text as an act of land 1 behind act 0, of land 0, and act 1, of land 1: its fault (0: none) and the place. */
     private static void read(String text, int fault, int place) {
@@ -566,8 +554,8 @@ public final class EdgesOfActs implements Kinds {
             edge("NoSuchElementException: no such ACT, DAY.", "act " + number, () -> {
                 LandBonds x = desk(1, 0, 0);
                 act(x, 0, "", 0, END);
-                sheet.dueOf("force", () -> bit(x.force(number, 5, 0)), NO_SUCH);
-                sheet.dueOf("ifStruck", () -> x.ifStruck(number, 5, 0, 0), NO_SUCH);
+                dueOf("force", () -> bit(x.force(number, 5, 0)), NO_SUCH);
+                dueOf("ifStruck", () -> x.ifStruck(number, 5, 0, 0), NO_SUCH);
             });
         }
     }

@@ -1,9 +1,7 @@
 /** Each sentence of the document that names an edge of what is answered: doubts and ways, part 4, promises 12 to 21. */
-public final class EdgesOfAnswers implements Kinds {
-    private static Sheet sheet;
-
+public final class EdgesOfAnswers extends Edges {
     public static void main(String[] args) throws java.io.IOException {
-        sheet = new Sheet("EdgesOfAnswers", "../shared/DOC.md");
+        begin("EdgesOfAnswers");
         inDoubt();
         waysByNumber();
         waysAsked();
@@ -23,16 +21,7 @@ public final class EdgesOfAnswers implements Kinds {
         ifStruckRefused();
         nothingOldIsAnswered();
         toldBetweenTwoAnswers();
-        sheet.end();
-    }
-
-    private static void edge(String sentence, String edge, Sheet.Test test) { sheet.edge(sentence, edge, test); }
-    private static void due(String what, long got, long want) { sheet.due(what, got, want); }
-    private static void dueOf(String what, Calls.Call call, long want) { sheet.dueOf(what, call, want); }
-    private static LandBonds desk(int lands, int places, int persons) { return Calls.desk(lands, places, persons); }
-
-    private static int act(LandBonds x, int land, String text, int from, int to) {
-        return Calls.act(x, land, text, from, to);
+        end();
     }
 
     /** Facts by how many days each has: oaths of person 0 to land 0, on day 10 times the number and behind it. */

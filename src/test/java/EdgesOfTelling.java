@@ -1,9 +1,7 @@
 /** Each sentence of the document that names an edge of what is told at the desk: terms, promises 1 to 11 and 22. */
-public final class EdgesOfTelling implements Kinds {
-    private static Sheet sheet;
-
+public final class EdgesOfTelling extends Edges {
     public static void main(String[] args) throws java.io.IOException {
-        sheet = new Sheet("EdgesOfTelling", "../shared/DOC.md");
+        begin("EdgesOfTelling");
         calls();
         days();
         evenings();
@@ -23,19 +21,8 @@ public final class EdgesOfTelling implements Kinds {
         tapeOfActs();
         faultPlace();
         count();
-        sheet.end();
+        end();
     }
-
-    private static void edge(String sentence, String edge, Sheet.Test test) { sheet.edge(sentence, edge, test); }
-    private static void due(String what, long got, long want) { sheet.due(what, got, want); }
-    private static void dueOf(String what, Calls.Call call, long want) { sheet.dueOf(what, call, want); }
-    private static LandBonds desk(int lands, int places, int persons) { return Calls.desk(lands, places, persons); }
-
-    private static int act(LandBonds x, int land, String text, int from, int to) {
-        return Calls.act(x, land, text, from, to);
-    }
-
-    private static long bit(boolean answer) { return answer ? 1 : 0; }
 
     private static void feedBlanks(LandBonds x, int times) {
         for (int i = 0; i < times; i++) x.feed(0x20202020, 0x20202020, 0x20202020, 0x20202020, 0x20202020);

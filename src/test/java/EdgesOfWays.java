@@ -1,9 +1,7 @@
 /** Each sentence of the document that names an edge of how a way is worked out: what happens, who is asked, values. */
-public final class EdgesOfWays implements Kinds {
-    private static Sheet sheet;
-
+public final class EdgesOfWays extends Edges {
     public static void main(String[] args) throws java.io.IOException {
-        sheet = new Sheet("EdgesOfWays", "../shared/DOC.md");
+        begin("EdgesOfWays");
         dayNull();
         orderOfADay();
         actsBegin();
@@ -29,15 +27,7 @@ public final class EdgesOfWays implements Kinds {
         leansByBirth();
         leansByWedding();
         leansElse();
-        sheet.end();
-    }
-
-    private static void edge(String sentence, String edge, Sheet.Test test) { sheet.edge(sentence, edge, test); }
-    private static void due(String what, long got, long want) { sheet.due(what, got, want); }
-    private static LandBonds desk(int lands, int places, int persons) { return Calls.desk(lands, places, persons); }
-
-    private static int act(LandBonds x, int land, String text, int from, int to) {
-        return Calls.act(x, land, text, from, to);
+        end();
     }
 
     private static void has(LandBonds x, int person, int day, int want) {
@@ -442,7 +432,7 @@ public final class EdgesOfWays implements Kinds {
         });
         for (int place : new int[] {-1, 2, 12, LEAST, GREATEST}) {
             edge("NoSuchElementException: no such PLACE, DAY (as everywhere).", "place " + place, () -> {
-                sheet.dueOf("landOf", () -> desk(2, 2, 0).landOf(place, 0, 0), NO_SUCH);
+                dueOf("landOf", () -> desk(2, 2, 0).landOf(place, 0, 0), NO_SUCH);
             });
         }
     }
